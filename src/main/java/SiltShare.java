@@ -295,7 +295,7 @@ public final class SiltShare {
         if (river.reaches == 0 || !isLevel(level) || silt.year >= YEARS) {
             return refuse(YEAR_CALLS);
         }
-        past.keep(silt);
+        past.store(silt);
         return passYear(silt, level);
     }
 
@@ -303,7 +303,7 @@ public final class SiltShare {
         if (river.reaches == 0 || n < 1 || n > YEARS_AT_ONCE || silt.year + n > YEARS) {
             return refuse(YEAR_CALLS);
         }
-        past.keep(silt);
+        past.store(silt);
         int grains = 0;
         for (int i = 0; i < n; i++) {
             grains += passYear(silt, draw(LEVELS));
@@ -319,7 +319,7 @@ public final class SiltShare {
         if (stones < 0 || stones > STONES) {
             return refuseAct(HAND_CALLS);
         }
-        past.keep(silt);
+        past.store(silt);
         silt.stones[reach] = stones;
         return true;
     }
@@ -331,7 +331,7 @@ public final class SiltShare {
         if (n < 1 || n > silt.lying[cell(reach, bank)]) {
             return refuseAct(HAND_CALLS);
         }
-        past.keep(silt);
+        past.store(silt);
         silt.lying[cell(reach, bank)] -= n;
         silt.lying[cell(reach, other)] += n;
         return true;
@@ -441,7 +441,7 @@ public final class SiltShare {
         if (lastFault != 0) {
             return NOTHING;
         }
-        return kind <= OFTEN ? answerTest(kind) : answerSum(kind);
+        return answer(kind);
     }
 
     // ---- images, refusals
@@ -518,12 +518,12 @@ public final class SiltShare {
 
     private void imagine(int level) {
         flood.aim(river, silt, level);
-        flood.run();
+        flood.run(0, river.reaches - 1);
     }
 
     private int passYear(Silt there, int level) {
         flood.aim(river, there, level);
-        flood.run();
+        flood.run(0, river.reaches - 1);
         flood.lay();
         there.payInterest(river.ebb);
         there.year++;
@@ -598,41 +598,31 @@ public final class SiltShare {
         return true;
     }
 
-    private int reckonQuestion(int level) {
-        imagine(level);
-        flood.tellAll();
-        return reckoner.reckon(question);
-    }
-
-    private long answerTest(int kind) {
+    private long answer(int kind) {
         int first = NONE;
         int last = NONE;
         int often = 0;
-        for (int level = 0; level < LEVELS; level++) {
-            if (reckonQuestion(level) != 0) {
-                first = often == 0 ? level : first;
-                last = level;
-                often++;
-            }
-        }
-        switch (kind) {
-            case FIRST: return first;
-            case LAST: return last;
-            default: return often;
-        }
-    }
-
-    private long answerSum(int kind) {
         long total = 0;
         int most = -BOUND;
         int least = BOUND;
         for (int level = 0; level < LEVELS; level++) {
-            int it = reckonQuestion(level);
+            flood.aim(river, silt, level);
+            flood.run(0, river.reaches - 1);
+            flood.tellAll();
+            int it = reckoner.reckon(question);
+            if (it != 0) {
+                first = often == 0 ? level : first;
+                last = level;
+                often++;
+            }
             total += it;
             most = Math.max(most, it);
             least = Math.min(least, it);
         }
         switch (kind) {
+            case FIRST: return first;
+            case LAST: return last;
+            case OFTEN: return often;
             case TOTAL: return total;
             case MOST: return most;
             default: return least;
@@ -719,9 +709,9 @@ public final class SiltShare {
         return all < 1 ? 0 : WHOLE_SHARE * part / all;
     }
 
-    /** The least or the greatest of what may be, where a number is below or above it. */
-    private static int within(int number, int least, int greatest) {
-        return Math.max(least, Math.min(number, greatest));
+    /** The number; the least or the greatest that may be, where it is below or above that. */
+    private static int within(long number, int least, int greatest) {
+        return number < least ? least : number > greatest ? greatest : (int) number;
     }
 
     /** The tape, and the reading of it as a text: the first FAULT stays. */
@@ -771,7 +761,7 @@ public final class SiltShare {
 
         /** Goes to what stands next behind the blanks; whatever is taken then, token tells its place. */
         void next() {
-            while (at < length && (byteAt(at) == 32 || byteAt(at) == 10)) {
+            while (at < length && at < bytes.length && (bytes[at] == 32 || bytes[at] == 10)) {
                 at++;
             }
             token = at;
@@ -861,7 +851,11 @@ public final class SiltShare {
 
         /** Words and numbers side by side need a blank between them. */
         private boolean isGlued() {
-            return isLetter(byteAt(at - 1)) || isDigit(byteAt(at - 1));
+            if (at < 1 || at > length || at > bytes.length) {
+                return false;
+            }
+            int ahead = bytes[at - 1];
+            return ahead >= 'a' && ahead <= 'z' || ahead >= '0' && ahead <= '9';
         }
 
         private static boolean isOwnWord(int packed) {
@@ -1446,7 +1440,7 @@ public final class SiltShare {
             count = 0;
         }
 
-        void keep(Silt silt) {
+        void store(Silt silt) {
             int at = next * STATE;
             cells[at] = silt.year;
             System.arraycopy(silt.stones, 0, cells, at + 1, REACHES);
@@ -1485,33 +1479,30 @@ public final class SiltShare {
         int reckon(Formula formula) {
             top = 0;
             for (int i = 0; i < formula.length && i < formula.steps.length; i++) {
-                take(formula.steps[i]);
+                int step = formula.steps[i];
+                if (step >= 0) {
+                    push(step);
+                } else if (step <= KNOWN) {
+                    push(entry(known, KNOWN - step));
+                } else if (step == NOT) {
+                    push(1 - pop());
+                } else if (step == LYING) {
+                    push(entry(lying, pop()));
+                } else if (step == HOLDING) {
+                    push(entry(holding, pop()));
+                } else {
+                    int b = pop();
+                    push(join(step, pop(), b));
+                }
             }
             return pop();
-        }
-
-        private void take(int step) {
-            if (step >= 0) {
-                push(step);
-            } else if (step <= KNOWN) {
-                push(entry(known, KNOWN - step));
-            } else if (step == NOT) {
-                push(1 - pop());
-            } else if (step == LYING) {
-                push(entry(lying, pop()));
-            } else if (step == HOLDING) {
-                push(entry(holding, pop()));
-            } else {
-                int b = pop();
-                push(join(step, pop(), b));
-            }
         }
 
         private int join(int sign, int a, int b) {
             switch (sign) {
                 case ADD: return within(a + b, -BOUND, BOUND);
                 case SUBTRACT: return within(a - b, -BOUND, BOUND);
-                case MULTIPLY: return product(a, b);
+                case MULTIPLY: return within((long) a * b, -BOUND, BOUND);
                 case DIVIDE: return b == 0 ? 0 : Math.floorDiv(a, b);
                 case LESSER: return Math.min(a, b);
                 case GREATER: return Math.max(a, b);
@@ -1537,11 +1528,6 @@ public final class SiltShare {
             }
             top--;
             return waiting[top];
-        }
-
-        private static int product(int a, int b) {
-            long product = (long) a * b;
-            return (int) Math.max(-BOUND, Math.min(product, BOUND));
         }
 
         private static int entry(int[] row, int k) {
@@ -1573,14 +1559,22 @@ public final class SiltShare {
             System.arraycopy(by.stones, 0, stones, 0, REACHES);
         }
 
-        void run() {
-            passFrom(0, river.reaches - 1);
-        }
-
-        /** Goes through REACHES; what comes into the first one is as it was carried there last. */
-        void passFrom(int from, int to) {
+        /**
+         * Goes through REACHES; what comes into the first one is as it was carried there last.
+         * A BANK may settle before the next one is cut: no BANK's grains ask for another's.
+         */
+        void run(int from, int to) {
             for (int r = Math.max(0, from); r <= to && r < REACHES; r++) {
-                pass(r);
+                for (int b = 0; b < river.banks.count; b++) {
+                    int carrying = r == 0 ? 0 : carried[cell(r - 1, b)];
+                    if (river.place[b] == r) {
+                        cut[b] = cutOf(b);
+                        carrying += cut[b];
+                    }
+                    int falls = settling(r, b, carrying);
+                    settled[cell(r, b)] = falls;
+                    carried[cell(r, b)] = carrying - falls;
+                }
             }
         }
 
@@ -1594,19 +1588,6 @@ public final class SiltShare {
             }
             tell(river.place[bank], bank, silt.held[bank]);
             return within(reckoner.reckon(river.cut), 0, silt.held[bank]);
-        }
-
-        private void pass(int reach) {
-            for (int b = 0; b < river.banks.count; b++) {
-                int carrying = reach == 0 ? 0 : carried[cell(reach - 1, b)];
-                if (river.place[b] == reach) {
-                    cut[b] = cutOf(b);
-                    carrying += cut[b];
-                }
-                int falls = settling(reach, b, carrying);
-                settled[cell(reach, b)] = falls;
-                carried[cell(reach, b)] = carrying - falls;
-            }
         }
 
         private int settling(int reach, int bank, int carrying) {
@@ -1757,7 +1738,7 @@ public final class SiltShare {
             int stale = 0;
             for (int i = 0; i < tries && fewest != 0; i++) {
                 if (fewest == NONE || total(flood.stones) < fewest) {
-                    flood.passFrom(stale, reach);
+                    flood.run(stale, reach);
                     stale = reach + 1;
                     if (flood.shareLeft(reach, owner) >= share) {
                         keepBest();

@@ -570,7 +570,7 @@ final class Model {
         return noReach(r) || noBank(b) ? -1 : now.lying[r][b];
     }
 
-    private int share(State s, int r, int o) {
+    int share(State s, int r, int o) {
         int all = sumOf(s.lying[r]);
         return all == 0 ? 0 : 1000 * owned(s, r, o) / all;
     }
@@ -630,7 +630,7 @@ final class Model {
     }
 
     /** The state behind a FLOOD that would be, without INTEREST. */
-    private State behind(State s, int level) {
+    State behind(State s, int level) {
         State it = s.copy();
         Would w = would(s, level);
         for (int b = 0; b < banks(); b++) {

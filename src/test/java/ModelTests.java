@@ -1,6 +1,8 @@
 import java.util.ArrayList;
 import java.util.List;
 import java.util.Random;
+import java.util.regex.Matcher;
+import java.util.regex.Pattern;
 
 /** All promises: the class and the plain Model are asked the same, by drawn texts and calls. */
 public final class ModelTests {
@@ -12,6 +14,7 @@ public final class ModelTests {
     private final SiltShare x = new SiltShare();
     private final Model m = new Model();
     private final List<int[]> images = new ArrayList<>();
+    private int deepest = 6;
 
     private ModelTests(int run, Due due) {
         this.run = run;
@@ -53,9 +56,9 @@ public final class ModelTests {
         if (draw(10) == 0) {
             calls(20);
         }
-        for (int i = draw(3); i >= 0; i--) {
+        for (int i = draw(6); i >= 0; i--) {
             tellRiver();
-            calls(60 + draw(100));
+            calls(m.told.reaches == 0 ? 2 : 20 + draw(60));
         }
     }
 
@@ -80,6 +83,7 @@ public final class ModelTests {
     }
 
     private String spoiled(String text) {
+        deepest = draw(5) == 0 ? 7 : 6;
         if (draw(3) > 0) {
             return text;
         }
@@ -87,14 +91,24 @@ public final class ModelTests {
         String[] bits = {" ", "\n", ";", "(", ")", "[", "7", "12345", "a", "at", "river", "min", "max(", "<", "not ", "lies ", "cut 1;", "*", "x", "@"};
         for (int i = draw(3); i >= 0 && it.length() > 0; i--) {
             int at = draw(it.length());
-            switch (draw(4)) {
+            switch (draw(6)) {
                 case 0: it.deleteCharAt(at); break;
+                case 3: anotherNumber(it); break;
+                case 4: anotherNumber(it); break;
                 case 1: it.insert(at, bits[draw(bits.length)]); break;
                 case 2: it.replace(at, at + 1, bits[draw(bits.length)]); break;
                 default: it.setLength(draw(4) > 0 ? at : it.length()); break;
             }
         }
         return it.toString();
+    }
+
+    private void anotherNumber(StringBuilder it) {
+        Matcher m = Pattern.compile("[0-9]+").matcher(it);
+        if (m.find(draw(it.length()))) {
+            int[] numbers = {0, 1, 3, 6, 9, 10, 50, 51, 99, 100, 9999, 10000};
+            it.replace(m.start(), m.end(), "" + numbers[draw(numbers.length)]);
+        }
     }
 
     private String gap() {
@@ -121,7 +135,7 @@ public final class ModelTests {
     private String part(int depth, boolean asks) {
         String[] rivers = {"level", "flow", "size", "held", "stones", "year", "place"};
         String[] questions = {"level", "taken", "sea"};
-        int which = draw(depth < 6 ? 8 : 4);
+        int which = draw(depth < deepest ? 8 : 4);
         switch (which) {
             case 0: case 1: return "" + draw(draw(3) == 0 ? 10000 : 12);
             case 2: case 3: return asks ? questions[draw(3)] : rivers[draw(7)];
@@ -136,7 +150,7 @@ public final class ModelTests {
     }
 
     private String fact(int depth) {
-        switch (draw(depth < 6 ? 6 : 3)) {
+        switch (draw(depth < deepest ? 6 : 3)) {
             case 0: return "all";
             case 1: case 2: return sum(depth, true) + "<>=".charAt(draw(3)) + sum(depth, true);
             case 3: return "not" + gap() + fact(depth + 1);
@@ -185,11 +199,15 @@ public final class ModelTests {
                 it.append(others[draw(3)]).append(1 + draw(20)).append(";");
             }
         }
-        if (draw(5) > 0) {
-            it.append("cut ").append(draw(2) == 0 ? sum(draw(7), false) : "level*" + (1 + draw(5)) + "+" + sum(4, false)).append(";");
+        if (draw(8) > 0) {
+            String[] cuts = {sum(draw(7), false), "level*" + (1 + draw(5)) + "+" + sum(4, false), "flow*" + (1 + draw(9)),
+                "max(0,year-" + draw(20) + ")*(1+size/" + (1 + draw(9)) + ")", "size*level+year/4*place", "(9-level)*(2-stones)+held/9"};
+            it.append("cut ").append(cuts[draw(cuts.length)]).append(";");
         }
-        if (draw(2) > 0) {
-            it.append("settle ").append(draw(2) == 0 ? sum(draw(7), false) : "held/" + (1 + draw(4)) + "+stones*" + draw(4)).append(";");
+        if (draw(3) > 0) {
+            String[] settles = {sum(draw(7), false), "held/" + (1 + draw(4)) + "+stones*" + draw(4), "(size-flow)*held/" + (1 + draw(9)),
+                "stones*" + (1 + draw(5)) + "+(place+year)*size/9", "held*stones/(place+1+level/3)", "max(1,9-flow)"};
+            it.append("settle ").append(settles[draw(settles.length)]).append(";");
         }
     }
 
@@ -282,22 +300,8 @@ public final class ModelTests {
         int b = about(m.banks());
         int level = about(10);
         switch (draw(5)) {
-            case 0:
-                int share = draw(5) == 0 ? about(1001) : draw(1001);
-                if (m.told.reaches < 7 || draw(10) == 0) {
-                    for (int k = -1; k <= Math.min(m.told.reaches, 4); k++) {
-                        String call = "mine(" + o + ", " + r + ", " + level + ", " + share + ", " + k + ")";
-                        is(call, x.mine(o, r, level, share, k), m.mine(o, r, level, share, k));
-                    }
-                }
-                break;
-            case 1:
-                int grains = draw(5) == 0 ? about(100) : draw(100);
-                int k = about(m.told.reaches) - draw(2);
-                if (m.told.reaches < 7 || draw(10) == 0) {
-                    is("keep(" + b + ", " + level + ", " + grains + ", " + k + ")", x.keep(b, level, grains, k), m.keep(b, level, grains, k));
-                }
-                break;
+            case 0: mine(o, r, level); break;
+            case 1: keep(b, level); break;
             case 2: is("until(" + o + ", " + r + ", " + level + ")", x.until(o, r, level), m.until(o, r, level)); break;
             case 3: find(level); break;
             default:
@@ -308,6 +312,46 @@ public final class ModelTests {
                 feed(bytes);
                 is("forged(" + r + ")", x.forged(r), m.forged(r));
                 break;
+        }
+    }
+
+    private boolean isSmall() {
+        return m.told.reaches < 7 || draw(10) == 0;
+    }
+
+    private boolean isGood(int o, int r, int b, int level) {
+        return m.share(r, o) >= 0 && m.cuts(b, level) >= 0;
+    }
+
+    /** What a FLOOD would leave with drawn stones. */
+    private Model.State behindStones(int level) {
+        Model.State s = m.now.copy();
+        for (int r = 0; r < m.told.reaches; r++) {
+            s.stones[r] = draw(3);
+        }
+        return m.behind(s, level);
+    }
+
+    /** A SHARE that some stones give, or nearly. */
+    private void mine(int o, int r, int level) {
+        int share = about(1001);
+        if (draw(4) > 0 && isGood(o, r, 0, level)) {
+            share = m.share(behindStones(level), r, o) + draw(2);
+        }
+        for (int k = -1; k <= Math.min(m.told.reaches, 4) && isSmall(); k++) {
+            String call = "mine(" + o + ", " + r + ", " + level + ", " + share + ", " + k + ")";
+            is(call, x.mine(o, r, level, share, k), m.mine(o, r, level, share, k));
+        }
+    }
+
+    private void keep(int b, int level) {
+        int grains = about(100);
+        if (draw(4) > 0 && isGood(0, 0, b, level)) {
+            grains = behindStones(level).held[b] + draw(2);
+        }
+        for (int k = -1; k <= Math.min(m.told.reaches, 3) && isSmall(); k++) {
+            String call = "keep(" + b + ", " + level + ", " + grains + ", " + k + ")";
+            is(call, x.keep(b, level, grains, k), m.keep(b, level, grains, k));
         }
     }
 
