@@ -6,7 +6,7 @@ import java.util.regex.Pattern;
 
 /** All promises: the class and the plain Model are asked the same, by drawn texts and calls. */
 public final class ModelTests {
-    private static final int RUNS = 700;
+    private static final int RUNS = 400;
 
     private final Random random;
     private final Due due;
@@ -53,6 +53,10 @@ public final class ModelTests {
     }
 
     private void go() {
+        if (run % 3 == 0) {
+            seekOnly();
+            return;
+        }
         if (draw(10) == 0) {
             calls(20);
         }
@@ -312,6 +316,35 @@ public final class ModelTests {
                 feed(bytes);
                 is("forged(" + r + ")", x.forged(r), m.forged(r));
                 break;
+        }
+    }
+
+    /** A RIVER whose stones and YEARS count for much, and what is sought in it. */
+    private void seekOnly() {
+        int reaches = 3 + draw(4);
+        StringBuilder it = new StringBuilder("river " + reaches + ";owner a;owner b;owner c;colour d;ebb " + draw(2) * draw(51) + ";");
+        for (int b = 0; b < 2 + draw(5); b++) {
+            it.append("bank ").append(name('u', b)).append(" of ").append(name('a', draw(3))).append(" colour d at ")
+                .append(draw(reaches)).append(" holds ").append(20 + draw(80)).append(" size ").append(1 + draw(9)).append(";");
+        }
+        String[] cuts = {"flow*" + (1 + draw(4)), "(3-stones)*" + (1 + draw(9)), "level+stones*7/size", "max(0,year-" + draw(12) + ")*size",
+            "held/(2+stones)", "9-level+place"};
+        String[] settles = {"stones*" + (1 + draw(9)) + "+place", "held*stones/" + (1 + draw(4)), "max(0,size-flow)*" + (1 + draw(9)),
+            "held/(1+place)-stones*3", "(year+1)*stones+size/3", "held/2+stones*stones*4-flow"};
+        it.append("cut ").append(cuts[draw(cuts.length)]).append(";");
+        it.append(draw(5) == 0 ? "" : "settle " + settles[draw(settles.length)] + ";");
+        feed(it.toString());
+        is("river() of " + it, x.river(), m.river());
+        for (int i = 0; i < 25; i++) {
+            int level = draw(10) == 0 ? 0 : 1 + draw(9);
+            mine(draw(3), draw(reaches), level);
+            keep(draw(m.banks()), level);
+            int o = draw(3);
+            int r = draw(reaches);
+            is("until(" + o + ", " + r + ", " + level + ")", x.until(o, r, level), m.until(o, r, level));
+            if (draw(3) == 0) {
+                act();
+            }
         }
     }
 
