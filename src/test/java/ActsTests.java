@@ -11,6 +11,7 @@ public final class ActsTests {
         undoingTwenty(due);
         seeds(due);
         images(due);
+        greatest(due);
         imagesOn(due);
         noImages(due);
         refusals(due);
@@ -32,6 +33,9 @@ public final class ActsTests {
         due.is("has(12)", x.has(12), 3);
         due.is("status(3)", x.status(3), 5);
         due.is("settles by stones", x.settles(0, 0, 1), 8);
+        due.is("stone(1, true)", x.stone(1, true), true);
+        due.is("the last stone taken", x.stone(1, false), true);
+        due.is("reach(1, 1)", x.reach(1, 1), 0);
         due.is("stone(0, false)", x.stone(0, false), true);
         due.is("stone(2, true)", x.stone(2, true), true);
         due.is("has(8)", x.has(8), 3);
@@ -131,6 +135,16 @@ public final class ActsTests {
         SiltShare y = Due.river(RIVER);
         due.is("seed(1)", y.seed(1), true);
         due.is("it is 1 at first", x.years(9), y.years(9));
+        due.is("seed(64)", x.seed(64), true);
+        x.undo();
+        y.undo();
+        long drawn = (1103515245L * 64 + 12345) % (1L << 31);
+        int level = (int) (drawn / 64 % 10);
+        due.is("a YEAR by the seed 64", x.years(1), x.has(7) == 1 ? y.flood(level) : -1);
+        same(due, "states by the seed 64", state(x), state(y));
+        x.undo();
+        y.undo();
+        x.years(9);
         due.is("seed(0)", x.seed(0), true);
         y.seed(12345);
         // the first draw of 0 leaves 12345
@@ -182,6 +196,39 @@ public final class ActsTests {
         x.image();
         due.is("octet(0) of YEAR 302", x.octet(0), 1);
         due.is("octet(1) of YEAR 302", x.octet(1), 46);
+    }
+
+    /** A RIVER with all that there may be: its IMAGE, undone and taken on. */
+    private static void greatest(Due due) {
+        StringBuilder text = new StringBuilder("river 8;owner a;colour c;cut 8;settle 1;");
+        for (char name = 'p'; name < 'z'; name++) {
+            text.append("bank ").append(name).append(" of a colour c at 0 holds ").append(90 + name - 'p').append(" size 1;");
+        }
+        SiltShare x = Due.river(text.toString());
+        for (int r = 0; r < 8; r++) {
+            x.stone(r, true);
+        }
+        for (int i = 0; i < 12; i++) {
+            due.is("flood(1)", x.flood(1), i < 11 ? 80 : x.has(10) - 880);
+        }
+        int[] then = imageOf(x);
+        due.is("image()", then.length, 211);
+        due.is("octet(210)", x.octet(210), then[210]);
+        due.is("octet(211)", x.octet(211), -1);
+        for (int i = 0; i < 20; i++) {
+            x.rake(7, i % 10, (i + 1) % 10, 3 + i);
+        }
+        due.is("has(12)", x.has(12), 20);
+        for (int i = 0; i < 20; i++) {
+            x.undo();
+        }
+        same(due, "undone", state(x), then);
+        Due.tell(x, text.toString());
+        x.river();
+        Due.tellBytes(x, then);
+        due.is("on()", x.on(), true);
+        same(due, "taken on", state(x), then);
+        due.is("bank(9, 5)", x.bank(9, 5), then[2 + 7 * 21 + 1 + 19] * 8);
     }
 
     private static int[] imageOf(SiltShare x) {
@@ -259,6 +306,7 @@ public final class ActsTests {
         due.is("on() of the good one", x.on(), true);
         notOn(due, "of nothing");
         notOn(due, "with four stones", checked(0, 5, 1, 0, 2, 2, 0, 1, 4, 0, 0, 0, 4, 0, 2, 0));
+        notOn(due, "with four stones in 0", checked(0, 5, 4, 0, 2, 2, 0, 1, 0, 0, 0, 0, 4, 0, 2, 0));
         notOn(due, "of YEAR 1000", checked(3, 232, 1, 0, 2, 2, 0, 1, 3, 0, 0, 0, 4, 0, 2, 0));
         notOn(due, "with a grain too many", checked(0, 5, 1, 0, 2, 2, 0, 1, 3, 0, 0, 0, 5, 0, 2, 0));
         notOn(due, "with a grain too few", checked(0, 5, 1, 0, 2, 2, 0, 0, 3, 0, 0, 0, 4, 0, 2, 0));

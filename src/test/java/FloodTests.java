@@ -49,6 +49,9 @@ public final class FloodTests {
         due.is("settles(2, 1, 8)", x.settles(2, 1, 8), 7);
         due.is("settles(2, 1, 9)", x.settles(2, 1, 9), 0);
         due.is("carries(3, 1, 9)", x.carries(3, 1, 9), 7);
+        due.is("carries(3, 1, 8)", x.carries(3, 1, 8), 0);
+        due.is("carries(2, 1, 9)", x.carries(2, 1, 9), 7);
+        due.is("settles(2, 1, 8)", x.settles(2, 1, 8), 7);
         x.stone(0, true);
         due.is("settles(0, 0, 1) by a stone", x.settles(0, 0, 1), 7);
         due.is("settles(0, 0, 4) by a stone", x.settles(0, 0, 4), 0);

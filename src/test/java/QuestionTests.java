@@ -36,6 +36,10 @@ public final class QuestionTests {
         due.answer(x, "total 0-9999*9999", -10000000);
         due.answer(x, " \n total\n \nlevel \n", 45);
         due.answer(x, "total 9999", 99990);
+        // many and long ones, one behind the other
+        for (int i = 0; i < 30; i++) {
+            due.answer(x, "total " + i + Due.times("+1", 100 - i), 1000);
+        }
     }
 
     private static void tests(Due due) {

@@ -76,6 +76,14 @@ public final class SeekingTests {
         mined(due, x, 1, 3, 1, 257, 3, 2, 1, 0, 0);
         mined(due, x, 1, 3, 1, 526, 4, 2, 1, 1, 0);
         mined(due, x, 1, 3, 1, 1000, 4, 2, 2, 0, 0);
+        // a's 10 fall in 2 by two stones there, b's 4 ahead, one by each stone
+        x = Due.river("river 3;owner a;owner b;colour c;bank u of a colour c at 2 holds 10 size 1;bank v of b colour c at 0 holds 4 size 1;"
+            + "cut 99;settle (1-place/2)*stones+place/2*(stones/2)*99;");
+        mined(due, x, 0, 2, 1, 714, 2, 0, 0, 2, -1);
+        mined(due, x, 0, 2, 1, 715, 3, 0, 1, 2, -1);
+        mined(due, x, 0, 2, 1, 909, 5, 1, 2, 2, -1);
+        mined(due, x, 0, 2, 1, 910, 6, 2, 2, 2, -1);
+        mined(due, x, 0, 2, 1, 1000, 6, 2, 2, 2, -1);
         // stones there and behind it
         x = Due.river(text + "settle stones*5;");
         mined(due, x, 1, 3, 1, 500, 1, 0, 0, 0, 1);
@@ -135,6 +143,8 @@ public final class SeekingTests {
         x = Due.river("river 3;owner a;colour c;bank u of a colour c at 2 holds 99 size 1;cut 50+(stones*2-3)*(stones-1)*30;");
         kept(due, x, 0, 5, 0, 0, 0, 0, 0, -1);
         kept(due, x, 0, 5, 49, 1, 0, 0, 1, -1);
+        kept(due, x, 0, 0, 99, 0, 0, 0, 0, -1);
+        due.is("keep of 100", x.keep(0, 0, 100, -1), -1);
     }
 
     private static void until(Due due) {
@@ -240,6 +250,7 @@ public final class SeekingTests {
         SiltShare y = new SiltShare();
         Due.tellNumbers(y, 1, 2, 3);
         due.is("find() without a river", y.find(), false);
+        due.is("find() of nothing without a river", y.find(), false);
         due.is("the tape goes", y.end(1), false);
         due.is("levels()", y.levels(), -1);
     }
