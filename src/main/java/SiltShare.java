@@ -42,6 +42,7 @@ public final class SiltShare {
     private static final int HAND_CALLS = 3;
     private static final int UNDO_CALLS = 4;
     private static final int SET_CALLS = 5;
+    private static final int CALLS_REFUSED = 6;
 
     // Each word has a blank behind it, the last one too.
     private static final String OWN_WORDS =
@@ -97,7 +98,7 @@ public final class SiltShare {
     private final Mason mason;
     private final int[] found = new int[REACHES];
     private final int[] octets = new int[IMAGE];
-    private final int[] refusals = new int[6];
+    private final int[] refusals = new int[CALLS_REFUSED];
     private boolean isFound;
     private int written;
     private int drawn = 1;
@@ -413,16 +414,8 @@ public final class SiltShare {
     }
 
     public int forged(int reach) {
-        int length = text.length;
-        text.length = 0;
-        if (!river.hasReach(reach) || length != 2 * river.colours.count) {
-            return NONE;
-        }
-        text.length = length;
-        int above = 0;
-        for (int c = 0; c < river.colours.count; c++) {
-            above += Math.max(0, text.twoAt(2 * c) - silt.coloured(river, reach, c));
-        }
+        boolean is = river.hasReach(reach) && text.length == 2 * river.colours.count;
+        int above = is ? toldAbove(reach) : NONE;
         text.length = 0;
         return above;
     }
@@ -502,7 +495,8 @@ public final class SiltShare {
     }
 
     private boolean refuseAct(int kind) {
-        return refuse(kind) != NONE;
+        refuse(kind);
+        return false;
     }
 
     private void keepFault() {
@@ -528,6 +522,15 @@ public final class SiltShare {
         there.payInterest(river.ebb);
         there.year++;
         return flood.settledGrains();
+    }
+
+    /** How many grains the tape tells above those that lie there, COLOUR by COLOUR. */
+    private int toldAbove(int reach) {
+        int above = 0;
+        for (int c = 0; c < river.colours.count; c++) {
+            above += Math.max(0, text.twoAt(2 * c) - silt.coloured(river, reach, c));
+        }
+        return above;
     }
 
     private boolean isStoneQuestion(int k) {
