@@ -38,7 +38,7 @@ public final class QuestionTests {
         due.answer(x, "total 9999", 99990);
         // many and long ones, one behind the other
         for (int i = 0; i < 30; i++) {
-            due.answer(x, "total " + i + Due.times("+1", 100 - i), 1000);
+            due.answer(x, "total " + i + Due.times("+1", 100), 1000 + 10 * i);
         }
     }
 
@@ -131,6 +131,8 @@ public final class QuestionTests {
         due.faultOfQuestion(x, "often level 3", 1, 12);
         due.faultOfQuestion(x, "often level<3 or", 1, 16);
         due.faultOfQuestion(x, "often level<3or all", 1, 13);
+        due.faultOfQuestion(x, "often level<0or all", 1, 13);
+        due.faultOfQuestion(x, "often level<9or all", 1, 13);
         due.faultOfQuestion(x, "often all or and", 1, 13);
         due.faultOfQuestion(x, "often [all", 1, 10);
         due.faultOfQuestion(x, "often [all)", 1, 10);

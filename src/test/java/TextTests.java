@@ -12,6 +12,7 @@ public final class TextTests {
         faultsOfNames(due);
         faultsOfDepth(due);
         faultsOfMany(due);
+        fullTapes(due);
         whatStays(due);
         due.finish();
     }
@@ -213,6 +214,20 @@ public final class TextTests {
         due.faultOfRiver(full + "x", 5, full.length());
         due.faultOfRiver(full + "\t", 5, full.length());
         due.faultOfRiver(full + "river", 5, full.length());
+    }
+
+    private static void fullTapes(Due due) {
+        String sum = "river 3;cut 1" + Due.times("+1", 793);
+        due.isRiver(sum + ";", 2);
+        due.faultOfRiver(sum + "+", 1, 1600);
+        due.faultOfRiver(sum + "1", 1, 1600);
+        due.faultOfRiver(sum + " ", 1, 1600);
+        due.faultOfRiver(sum + "x", 1, 1599);
+        due.isRiver("river 3;" + Due.times(" ", 1592), 1);
+        due.faultOfRiver(Due.times(" ", 1600), 1, 1600);
+        due.faultOfRiver("river 3;" + Due.times(" ", 1585) + "colour " , 1, 1600);
+        due.faultOfRiver("river 3;owner" + Due.times(" ", 1586) + "a", 1, 1600);
+        due.faultOfRiver("river 3;owner" + Due.times(" ", 1586) + "1", 1, 1599);
     }
 
     private static void whatStays(Due due) {
