@@ -28,7 +28,7 @@ public final class SiltShare {
     private static final int WHOLE_SHARE = 1000;
     private static final int TOLD_GRAINS = 99;
     private static final int BOUND = 1000000;
-    private static final int IMAGE = 2 + REACHES * (1 + 2 * BANKS) + 4 * BANKS + 1;
+    private static final int IMAGE = 2 + REACHES * (1 + 2 * BANKS) + 3 * BANKS + 1;
 
     private static final int FAULT_TEXT = 1;
     private static final int FAULT_NUMBER = 2;
@@ -449,7 +449,7 @@ public final class SiltShare {
             }
         }
         for (int b = 0; b < river.banks.count; b++) {
-            writeTwo(silt.held[b]);
+            write(silt.held[b]);
             writeTwo(silt.gone[b]);
         }
         int check = 173;
@@ -647,7 +647,7 @@ public final class SiltShare {
     /** Reads the tape into the trial state and tells whether that is one of this RIVER. */
     private boolean isImage() {
         int banks = river.banks.count;
-        int length = 2 + river.reaches * (1 + 2 * banks) + 4 * banks + 1;
+        int length = 2 + river.reaches * (1 + 2 * banks) + 3 * banks + 1;
         if (river.reaches == 0 || text.length != length || !isChecked()) {
             return false;
         }
@@ -682,9 +682,9 @@ public final class SiltShare {
             }
         }
         for (int b = 0; b < banks; b++) {
-            trial.held[b] = text.twoAt(at);
-            trial.gone[b] = text.twoAt(at + 2);
-            at += 4;
+            trial.held[b] = text.byteAt(at);
+            trial.gone[b] = text.twoAt(at + 1);
+            at += 3;
         }
     }
 

@@ -175,7 +175,7 @@ public final class ActsTests {
             x.undo();
         }
         // YEAR 1; 3 of u and 1 of v; two stones, 4 and 4; 4 and 4; u holds 70 and 5 + 3 went, v 60 and 10 + 2
-        int[] want = {0, 1, 0, 0, 3, 0, 1, 2, 0, 4, 0, 4, 0, 0, 4, 0, 4, 0, 70, 0, 8, 0, 60, 0, 12, 0};
+        int[] want = {0, 1, 0, 0, 3, 0, 1, 2, 0, 4, 0, 4, 0, 0, 4, 0, 4, 70, 0, 8, 60, 0, 12, 0};
         int check = 173;
         for (int i = 0; i < want.length - 1; i++) {
             check = (3 * check + want[i]) % 251;
@@ -212,9 +212,9 @@ public final class ActsTests {
             due.is("flood(1)", x.flood(1), i < 11 ? 80 : x.has(10) - 880);
         }
         int[] then = imageOf(x);
-        due.is("image()", then.length, 211);
-        due.is("octet(210)", x.octet(210), then[210]);
-        due.is("octet(211)", x.octet(211), -1);
+        due.is("image()", then.length, 201);
+        due.is("octet(200)", x.octet(200), then[200]);
+        due.is("octet(201)", x.octet(201), -1);
         for (int i = 0; i < 20; i++) {
             x.rake(7, i % 10, (i + 1) % 10, 3 + i);
         }
@@ -270,10 +270,21 @@ public final class ActsTests {
         due.is("reach(2, 1)", z.reach(2, 1), 1);
         // grains may count as others: all together as told is enough
         SiltShare w = Due.river("river 3;owner a;colour c;bank b of a colour c at 0 holds 1 size 1;bank d of a colour c at 0 holds 2 size 1;");
-        Due.tellBytes(w, checked(0, 0, 0, 0, 0, 0, 0, 0, 0, 0, 0, 0, 0, 0, 0, 0, 0, 0, 3, 0, 0, 0, 0, 0, 0, 0));
+        Due.tellBytes(w, checked(0, 0, 0, 0, 0, 0, 0, 0, 0, 0, 0, 0, 0, 0, 0, 0, 0, 3, 0, 0, 0, 0, 0, 0));
         due.is("on() by other BANKS", w.on(), true);
         due.is("lies(2, 1)", w.lies(2, 1), 0);
         due.is("bank(0, 4)", w.bank(0, 4), 3);
+        // more in a BANK than any text tells, and more than a signed byte has
+        SiltShare v = Due.river("river 3;owner a;colour c;bank b of a colour c at 0 holds 99 size 1;"
+            + "bank d of a colour c at 0 holds 99 size 1;bank e of a colour c at 0 holds 99 size 1;");
+        int[] full = new int[33];
+        full[23] = 255;
+        full[31] = 42;
+        Due.tellBytes(v, checked(full));
+        due.is("on() with 255 in a BANK", v.on(), true);
+        due.is("bank(0, 4)", v.bank(0, 4), 255);
+        due.is("bank(2, 6)", v.bank(2, 6), 42);
+        same(due, "with 255 in a BANK", state(v), full);
     }
 
     /** These bytes, the last one in place of which the check is. */
@@ -300,27 +311,32 @@ public final class ActsTests {
     }
 
     private static void noImages(Due due) {
-        int[] good = checked(0, 5, 1, 0, 2, 2, 0, 1, 3, 0, 0, 0, 4, 0, 2, 0);
+        int[] good = checked(0, 5, 1, 0, 2, 2, 0, 1, 3, 0, 0, 4, 0, 2, 0);
         SiltShare x = Due.river("river 3;owner a;colour c;bank b of a colour c at 0 holds 9 size 1;");
         Due.tellBytes(x, good);
         due.is("on() of the good one", x.on(), true);
         notOn(due, "of nothing");
-        notOn(due, "with four stones", checked(0, 5, 1, 0, 2, 2, 0, 1, 4, 0, 0, 0, 4, 0, 2, 0));
-        notOn(due, "with four stones in 0", checked(0, 5, 4, 0, 2, 2, 0, 1, 0, 0, 0, 0, 4, 0, 2, 0));
-        notOn(due, "of YEAR 1000", checked(3, 232, 1, 0, 2, 2, 0, 1, 3, 0, 0, 0, 4, 0, 2, 0));
-        notOn(due, "with a grain too many", checked(0, 5, 1, 0, 2, 2, 0, 1, 3, 0, 0, 0, 5, 0, 2, 0));
-        notOn(due, "with a grain too few", checked(0, 5, 1, 0, 2, 2, 0, 0, 3, 0, 0, 0, 4, 0, 2, 0));
-        notOn(due, "with 256 grains too many", checked(0, 5, 1, 1, 2, 2, 0, 1, 3, 0, 0, 0, 4, 0, 2, 0));
-        notOn(due, "a byte too short", checked(0, 5, 1, 0, 2, 2, 0, 1, 3, 0, 0, 0, 4, 0, 0));
-        notOn(due, "a byte too long", checked(0, 5, 1, 0, 2, 2, 0, 1, 3, 0, 0, 0, 4, 0, 2, 0, 0));
+        notOn(due, "with four stones", checked(0, 5, 1, 0, 2, 2, 0, 1, 4, 0, 0, 4, 0, 2, 0));
+        notOn(due, "with four stones in 0", checked(0, 5, 4, 0, 2, 2, 0, 1, 0, 0, 0, 4, 0, 2, 0));
+        notOn(due, "of YEAR 1000", checked(3, 232, 1, 0, 2, 2, 0, 1, 3, 0, 0, 4, 0, 2, 0));
+        notOn(due, "with a grain too many", checked(0, 5, 1, 0, 2, 2, 0, 1, 3, 0, 0, 5, 0, 2, 0));
+        notOn(due, "with a grain too few", checked(0, 5, 1, 0, 2, 2, 0, 0, 3, 0, 0, 4, 0, 2, 0));
+        notOn(due, "with 256 grains too many", checked(0, 5, 1, 1, 2, 2, 0, 1, 3, 0, 0, 4, 0, 2, 0));
+        notOn(due, "a byte too short", checked(0, 5, 1, 0, 2, 2, 0, 1, 3, 0, 0, 4, 2, 0));
+        notOn(due, "with two bytes for what a BANK holds", checked(0, 5, 1, 0, 2, 2, 0, 1, 3, 0, 0, 0, 4, 0, 2, 0));
+        notOn(due, "a byte too long", checked(0, 5, 1, 0, 2, 2, 0, 1, 3, 0, 0, 4, 0, 2, 0, 0));
         int[] bad = good.clone();
-        bad[15] = (bad[15] + 1) % 256;
+        bad[14] = (bad[14] + 1) % 256;
         notOn(due, "with another check", bad);
         int[] far = good.clone();
-        far[15] += 251;
-        if (far[15] < 256) {
-            notOn(due, "with a check of 251 more", far);
+        for (int year = 0; far[14] > 4; year++) {
+            far[1] = year;
+            checked(far);
         }
+        Due.tellBytes(x, far);
+        due.is("on() with a check of at most 4", x.on(), true);
+        far[14] += 251;
+        notOn(due, "with a check of 251 more", far);
         SiltShare y = new SiltShare();
         Due.tellBytes(y, 0, 0, 51);
         due.is("on() without a river", y.on(), false);

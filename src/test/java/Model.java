@@ -920,7 +920,7 @@ final class Model {
             }
         }
         for (int b = 0; b < banks(); b++) {
-            it.addAll(List.of(now.held[b] / 256, now.held[b] % 256, now.gone[b] / 256, now.gone[b] % 256));
+            it.addAll(List.of(now.held[b], now.gone[b] / 256, now.gone[b] % 256));
         }
         int c = 173;
         for (int octet : it) {
@@ -980,7 +980,7 @@ final class Model {
             }
         }
         for (int b = 0; b < banks(); b++) {
-            s.held[b] = rest.poll() * 256 + rest.poll();
+            s.held[b] = rest.poll();
             s.gone[b] = rest.poll() * 256 + rest.poll();
             all += s.held[b] + s.gone[b];
         }
