@@ -1,18 +1,40 @@
-/** What the tests share: counting answers that are not due, and telling an object texts. */
+/**
+ * What the tests share: which sentence of ../shared/DOC.md they hold, counting answers that are not
+ * due, and telling an object texts.
+ */
 final class Due {
     private final String name;
+    private String held = "";
+    private int sentences;
     private int asked;
+    private int askedOfSentence = 1;
     private int wrong;
 
     Due(String name) {
         this.name = name;
     }
 
+    /** From here on the answers hold this sentence of this promise or term, word by word as the document has it. */
+    void holds(String promise, String sentence) {
+        sentenceEnds();
+        held = ", " + promise + ": \"" + sentence + "\"";
+        sentences++;
+        askedOfSentence = 0;
+    }
+
+    private void sentenceEnds() {
+        if (askedOfSentence == 0) {
+            wrong++;
+            System.out.println(name + held + ": nothing is asked of it");
+        }
+    }
+
     void is(String call, long got, long want) {
         asked++;
+        askedOfSentence++;
         if (got != want) {
             wrong++;
-            System.out.println(name + ": " + call + " answered " + got + ", due is " + want);
+            System.out.println(name + held + ": " + call + " answered " + got + ", due is " + want);
         }
     }
 
@@ -20,41 +42,65 @@ final class Due {
         is(call, got ? 1 : 0, want ? 1 : 0);
     }
 
+    void row(String what, int[] got, int... want) {
+        is("how many of " + what, got.length, want.length);
+        for (int i = 0; i < want.length && i < got.length; i++) {
+            is("no. " + i + " of " + what, got[i], want[i]);
+        }
+    }
+
+    /** The FAULT of a text of a RIVER; its place is told by a | ahead of it. */
+    void fault(int fault, String marked) {
+        int place = marked.indexOf('|');
+        faultOfRiver(marked.substring(0, place) + marked.substring(place + 1), fault, place);
+    }
+
+    /** The FAULT of a QUESTION, likewise. */
+    void fault(SiltShare x, int fault, String marked) {
+        int place = marked.indexOf('|');
+        faultOfQuestion(x, marked.substring(0, place) + marked.substring(place + 1), fault, place);
+    }
+
+    private static String brief(String text) {
+        return text.length() < 200 ? "\"" + text + "\"" : "\"" + text.substring(0, 80) + "\" and " + (text.length() - 80) + " bytes more";
+    }
+
     /** The FAULT of a text of a RIVER and its place. */
     void faultOfRiver(String text, int fault, int place) {
         SiltShare x = new SiltShare();
         tell(x, text);
-        is("river() of \"" + text + "\"", x.river(), SiltShare.NONE);
-        is("fault(0) of \"" + text + "\"", x.fault(0), fault);
-        is("fault(1) of \"" + text + "\"", x.fault(1), place);
-        is("status(1) of \"" + text + "\"", x.status(1), 1);
+        is("river() of " + brief(text), x.river(), SiltShare.NONE);
+        is("fault(0) of " + brief(text), x.fault(0), fault);
+        is("fault(1) of " + brief(text), x.fault(1), place);
+        is("status(1) of " + brief(text), x.status(1), 1);
     }
 
     /** Whether a text is a RIVER of so many STATEMENTS. */
     void isRiver(String text, int statements) {
         SiltShare x = new SiltShare();
         tell(x, text);
-        is("river() of \"" + text + "\"", x.river(), statements);
-        is("fault(0) of \"" + text + "\"", x.fault(0), 0);
-        is("fault(1) of \"" + text + "\"", x.fault(1), SiltShare.NONE);
+        is("river() of " + brief(text), x.river(), statements);
+        is("fault(0) of " + brief(text), x.fault(0), 0);
+        is("fault(1) of " + brief(text), x.fault(1), SiltShare.NONE);
     }
 
     void faultOfQuestion(SiltShare x, String text, int fault, int place) {
         tell(x, text);
-        is("ask() of \"" + text + "\"", x.ask(), SiltShare.NOTHING);
-        is("fault(0) of \"" + text + "\"", x.fault(0), fault);
-        is("fault(1) of \"" + text + "\"", x.fault(1), place);
+        is("ask() of " + brief(text), x.ask(), SiltShare.NOTHING);
+        is("fault(0) of " + brief(text), x.fault(0), fault);
+        is("fault(1) of " + brief(text), x.fault(1), place);
     }
 
     void answer(SiltShare x, String text, long want) {
         tell(x, text);
-        is("ask() of \"" + text + "\"", x.ask(), want);
-        is("fault(0) of \"" + text + "\"", x.fault(0), 0);
-        is("fault(1) of \"" + text + "\"", x.fault(1), SiltShare.NONE);
+        is("ask() of " + brief(text), x.ask(), want);
+        is("fault(0) of " + brief(text), x.fault(0), 0);
+        is("fault(1) of " + brief(text), x.fault(1), SiltShare.NONE);
     }
 
     void finish() {
-        System.out.println(name + ": " + asked + " answers, " + wrong + " not as due");
+        sentenceEnds();
+        System.out.println(name + ": " + asked + " answers to " + sentences + " sentences, " + wrong + " not as due");
         if (wrong != 0 || asked == 0) {
             System.exit(1);
         }
@@ -97,6 +143,14 @@ final class Due {
             x.feed(fives[i], fives[i + 1], fives[i + 2], fives[i + 3], fives[i + 4]);
         }
         x.end(bytes.length);
+    }
+
+    static int[] imageOf(SiltShare x) {
+        int[] bytes = new int[Math.max(0, x.image())];
+        for (int k = 0; k < bytes.length; k++) {
+            bytes[k] = x.octet(k);
+        }
+        return bytes;
     }
 
     static String times(String part, int n) {
