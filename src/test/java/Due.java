@@ -55,7 +55,11 @@ final class Due {
         faultOfRiver(marked.substring(0, place) + marked.substring(place + 1), fault, place);
     }
 
-    /** The FAULT of a QUESTION, likewise. */
+    /** The FAULT of a QUESTION about a new RIVER, likewise. */
+    void fault(String river, int fault, String marked) {
+        fault(river(river), fault, marked);
+    }
+
     void fault(SiltShare x, int fault, String marked) {
         int place = marked.indexOf('|');
         faultOfQuestion(x, marked.substring(0, place) + marked.substring(place + 1), fault, place);
@@ -89,6 +93,11 @@ final class Due {
         is("ask() of " + brief(text), x.ask(), SiltShare.NOTHING);
         is("fault(0) of " + brief(text), x.fault(0), fault);
         is("fault(1) of " + brief(text), x.fault(1), place);
+    }
+
+    /** The answer to a QUESTION about a new RIVER. */
+    void answer(String river, String text, long want) {
+        answer(river(river), text, want);
     }
 
     void answer(SiltShare x, String text, long want) {

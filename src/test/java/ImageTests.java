@@ -184,12 +184,11 @@ public final class ImageTests {
             x.undo();
         }
         due.row("undone", Due.imageOf(x), then);
-        Due.tell(x, text.toString());
-        x.river();
-        Due.tellBytes(x, then);
-        due.is("on()", x.on(), true);
-        due.row("taken on", Due.imageOf(x), then);
-        due.is("bank(9, 5)", x.bank(9, 5), then[2 + 7 * 21 + 1 + 19] * 8);
+        SiltShare y = Due.river(text.toString());
+        Due.tellBytes(y, then);
+        due.is("on()", y.on(), true);
+        due.row("taken on", Due.imageOf(y), then);
+        due.is("bank(9, 5)", y.bank(9, 5), then[2 + 7 * 21 + 1 + 19] * 8);
     }
 
     /** These bytes, the last one in place of which the check is. */

