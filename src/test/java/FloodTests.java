@@ -8,6 +8,7 @@ public final class FloodTests {
 
     public static void main(String[] args) {
         Due due = new Due("FloodTests");
+        levels(due);
         flows(due);
         frozen(due);
         cutting(due);
@@ -32,6 +33,29 @@ public final class FloodTests {
         draws(due);
         yearsEnd(due);
         due.finish();
+    }
+
+    private static void levels(Due due) {
+        due.holds(II, "A FLOOD has a LEVEL, 0 .. 9.");
+        SiltShare x = Due.river(BARE + "cut level;settle level;");
+        for (int level = 0; level <= 9; level++) {
+            due.is("flow(1, " + level + ")", x.flow(1, level), level);
+            due.is("would(" + level + ", 0)", x.would(level, 0), 2 * level);
+        }
+        due.is("flood(0)", x.flood(0), 0);
+        due.is("flood(9)", x.flood(9), 18);
+        for (int none : new int[] {-1, 10, Integer.MIN_VALUE, Integer.MAX_VALUE}) {
+            due.is("flow(1, " + none + ")", x.flow(1, none), -1);
+            due.is("cuts(0, " + none + ")", x.cuts(0, none), -1);
+            due.is("settles(0, 0, " + none + ")", x.settles(0, 0, none), -1);
+            due.is("carries(0, 0, " + none + ")", x.carries(0, 0, none), -1);
+            due.is("would(" + none + ", 0)", x.would(none, 0), -1);
+            due.is("flood(" + none + ")", x.flood(none), -1);
+            due.is("mine(0, 0, " + none + ", 0, -1)", x.mine(0, 0, none, 0, -1), -1);
+            due.is("keep(0, " + none + ", 0, -1)", x.keep(0, none, 0, -1), -1);
+            due.is("until(0, 0, " + none + ")", x.until(0, 0, none), -1);
+        }
+        due.is("has(7)", x.has(7), 2);
     }
 
     private static void flows(Due due) {
@@ -103,7 +127,7 @@ public final class FloodTests {
     }
 
     private static void inOrder(Due due) {
-        due.holds(II, "Else it goes REACH by REACH from 0 on; in each: FIRST, BANK by BANK (those that stand there, as they are told)");
+        due.holds(II, "Else it goes REACH by REACH from 0 on; in each: FIRST, BANK by BANK (those that stand there, as they are told), it CUTS:");
         // BANKS told against the way of the river, the last REACH first
         SiltShare x = Due.river("river 3;owner a;colour c;bank u of a colour c at 2 holds 60 size 4;bank v of a colour c at 0 holds 50 size 9;"
             + "bank w of a colour c at 2 holds 40 size 2;cut 12+size;settle 6;");
@@ -119,6 +143,17 @@ public final class FloodTests {
         due.is("bank(0, 6)", x.bank(0, 6), 10);
         due.is("bank(1, 6)", x.bank(1, 6), 3);
         due.is("bank(2, 6)", x.bank(2, 6), 8);
+        due.holds(II, "these grains it CARRIES from then on. THEN, for each BANK (all, as they are told), of those of its grains that it CARRIES there SETTLE:");
+        x = Due.river("river 3;owner a;colour c;bank u of a colour c at 0 holds 9 size 4;bank v of a colour c at 1 holds 8 size 9;"
+            + "bank w of a colour c at 2 holds 7 size 2;cut 99;settle place/2*99;");
+        // none settles ahead of the last REACH, and there of each BANK all: of those that stand elsewhere, too
+        int[] held = {9, 8, 7};
+        for (int r = 0; r < 3; r++) {
+            for (int b = 0; b < 3; b++) {
+                due.is("settles(" + r + ", " + b + ", 1)", x.settles(r, b, 1), r == 2 ? held[b] : 0);
+                due.is("carries(" + r + ", " + b + ", 1)", x.carries(r, b, 1), r < 2 && b <= r ? held[b] : 0);
+            }
+        }
     }
 
     private static void settling(Due due) {
@@ -357,6 +392,9 @@ public final class FloodTests {
         due.is("2 of 100 of 50 and 49, twice", x.has(10), 196);
         due.is("lies(0, 0)", x.lies(0, 0), 49);
         due.is("lies(1, 0)", x.lies(1, 0), 49);
+        x = Due.river(text + "settle 33;ebb 3;");
+        x.flood(1);
+        due.is("3 of 100 of 33, three times, twice", x.has(10), 198);
         x = Due.river(BARE + "cut 50;settle 50;ebb 1;");
         x.flood(1);
         due.is("1 of 100 of 50", x.has(10), 100);
@@ -592,6 +630,16 @@ public final class FloodTests {
     }
 
     private static void draws(Due due) {
+        due.holds(II, "YEARS by a seed: each with a DRAW of 10 as its LEVEL;");
+        for (int level = 0; level < 10; level++) {
+            int seed = 0;
+            while (level(seed, 1) != level) {
+                seed++;
+            }
+            SiltShare y = Due.river(BARE + "cut level;settle level;");
+            y.seed(seed);
+            due.is("years(1) by the DRAW " + level, y.years(1), 2 * level);
+        }
         due.holds(II, "A DRAW of m: x (the seed) becomes (1103515245 x + 12345) mod 2 to the 31; floor(x / 64) mod m.");
         for (int first : new int[] {0, 1, 63, 64, 12345, 1 << 30, Integer.MAX_VALUE - 1, Integer.MAX_VALUE}) {
             SiltShare x = Due.river(BARE + "cut 2*level;settle 0;");

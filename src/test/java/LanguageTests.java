@@ -11,15 +11,19 @@ import java.util.Set;
 import java.util.TreeSet;
 import java.util.regex.Matcher;
 import java.util.regex.Pattern;
+import java.util.stream.Collectors;
 
 /** The public face, and those rules of LANGUAGE.md that a plain look at the source can tell. */
 public final class LanguageTests {
-    private static final String FACE = "feed/5 end/1 river/0 fault/1 has/1 letter/3 bank/2 reach/2 lies/2 share/2 tint/2 flow/2 cuts/2 "
-        + "settles/3 carries/3 would/2 flood/1 years/1 stone/2 rake/4 undo/0 seed/1 mine/5 keep/4 until/3 find/0 levels/0 forged/1 "
-        + "ask/0 image/0 octet/1 on/0 status/1";
+    private static final String FACE = "int feed(int,int,int,int,int) boolean end(int) int river() int fault(int) int has(int) int letter(int,int,int) "
+        + "int bank(int,int) int reach(int,int) int lies(int,int) int share(int,int) int tint(int,int) int flow(int,int) int cuts(int,int) "
+        + "int settles(int,int,int) int carries(int,int,int) int would(int,int) int flood(int) int years(int) boolean stone(int,boolean) "
+        + "boolean rake(int,int,int,int) boolean undo() boolean seed(int) int mine(int,int,int,int,int) int keep(int,int,int,int) "
+        + "int until(int,int,int) boolean find() int levels() int forged(int) long ask() int image() int octet(int) boolean on() int status(int)";
 
     public static void main(String[] args) throws IOException {
         Due due = new Due("LanguageTests");
+        due.holds("The public face", "public final class SiltShare");
         face(due);
         classes(due);
         String source = Files.readString(Path.of("src/main/java/SiltShare.java"));
@@ -32,24 +36,28 @@ public final class LanguageTests {
         Set<String> methods = new TreeSet<>();
         for (Method m : SiltShare.class.getDeclaredMethods()) {
             if (!Modifier.isPrivate(m.getModifiers())) {
-                methods.add(m.getName() + "/" + m.getParameterCount());
+                String types = Arrays.stream(m.getParameterTypes()).map(Class::getName).collect(Collectors.joining(","));
+                methods.add(m.getReturnType() + " " + m.getName() + "(" + types + ")");
                 due.is("public " + m, Modifier.isPublic(m.getModifiers()), true);
             }
         }
-        due.is("the face: " + methods, methods.equals(new TreeSet<>(Arrays.asList(FACE.split(" ")))), true);
+        due.is("the face: " + methods, methods.equals(new TreeSet<>(Arrays.asList(FACE.split("(?<=\\)) ")))), true);
         for (Field f : SiltShare.class.getDeclaredFields()) {
             boolean told = List.of("NONE", "NOTHING").contains(f.getName());
             due.is("public " + f, !Modifier.isPrivate(f.getModifiers()), told);
         }
+        due.holds("The constants", "`NONE = -1`: There is none; it is refused.");
         due.is("NONE", SiltShare.NONE, -1);
+        due.holds("The constants", "`NOTHING = -1000000000000000L`: Told where a number below 0 may be one.");
         due.is("NOTHING", SiltShare.NOTHING, -1000000000000000L);
+        due.holds("The public face", "public final class SiltShare");
         due.is("final", Modifier.isFinal(SiltShare.class.getModifiers()), true);
     }
 
     private static void classes(Due due) {
         Class<?>[] inside = SiltShare.class.getDeclaredClasses();
         due.is("classes are some twelve: " + inside.length, inside.length <= 11, true);
-        Set<String> face = new TreeSet<>(Arrays.asList(FACE.replaceAll("/[0-9]", "").split(" ")));
+        Set<String> face = new TreeSet<>(Arrays.asList(FACE.replaceAll("\\w+ (\\w+)\\([a-z,]*\\)", "$1").split(" ")));
         for (Class<?> c : inside) {
             due.is("static " + c, Modifier.isStatic(c.getModifiers()), true);
             for (Method m : c.getDeclaredMethods()) {

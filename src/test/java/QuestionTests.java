@@ -239,6 +239,8 @@ public final class QuestionTests {
         Due.tell(x, "river 3;");
         x.river();
         due.answer(x, "most holds 0+lies 0+taken+sea", 0);
+        due.answer(x, "total level", 45);
+        due.answer("river 3;", "total level", 45);
     }
 
     private static void wereItNow(Due due) {
@@ -474,6 +476,8 @@ public final class QuestionTests {
         due.faultOfQuestion(x, "", 1, 0);
         due.answer(x, "most level", 9);
         due.is("the tape goes", x.end(1), false);
+        due.answer(x, "total level", 45);
+        due.answer(x, "total level", 45);
         due.row("the image", Due.imageOf(x), then);
         due.is("nothing is an ACT", x.has(12), 0);
     }
@@ -486,7 +490,9 @@ public final class QuestionTests {
         due.is("the tape goes", x.end(1), false);
         due.fault(x, 1, "total 1|;");
         due.fault(x, 4, "total ((((((|(");
-        due.answer(x, "total 1", 10);
+        due.answer(x, "total ((((((1))))))", 10);
+        due.fault(x, 1, "often not[not[not[1|");
+        due.answer(x, "often not[not[not[1=1]]]", 0);
         due.is("a FAULT of ask() is no refusal", x.status(1), 0);
         due.is("has(0)", x.has(0), 3);
     }

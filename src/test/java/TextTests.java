@@ -66,6 +66,8 @@ public final class TextTests {
         due.fault(1, "river 3 |");
         due.fault(1, "river 3;|;");
         due.fault(1, "|;river 3;");
+        due.fault(1, "|;");
+        due.fault(1, "|;ebb 1;");
         due.fault(1, "river 3 |ebb 1;");
         due.fault(1, "river 3|:");
     }
@@ -99,6 +101,9 @@ public final class TextTests {
         due.isRiver("river 3;slope 9 at 2;slope 0 at 0;", 3);
         due.isRiver("river 8;slope 1 at 7;", 2);
         due.fault(2, "river 3;slope |10 at 0;");
+        due.fault(2, "river 3;slope |10;");
+        due.fault(1, "river 3;slope 1|;");
+        due.fault(1, "river 3;slope |;");
         due.fault(2, "river 3;slope 1 at |3;");
         due.fault(2, "river 4;slope 1 at |4;");
         due.fault(2, "river 7;slope 1 at |7;");
@@ -108,10 +113,12 @@ public final class TextTests {
         for (int r = 0; r < 5; r++) {
             due.is("reach(" + r + ", 0)", x.reach(r, 0), want[r]);
         }
-        Due.tell(x, "river 5;");
-        x.river();
-        for (int r = 0; r < 5; r++) {
-            due.is("reach(" + r + ", 0) of a new river", x.reach(r, 0), 0);
+        for (int i = 0; i < 3; i++) {
+            Due.tell(x, "river 5;");
+            x.river();
+            for (int r = 0; r < 5; r++) {
+                due.is("reach(" + r + ", 0) of a new river", x.reach(r, 0), 0);
+            }
         }
     }
 
@@ -203,11 +210,13 @@ public final class TextTests {
         due.is("has(4)", x.has(4), 99);
         due.is("has(5)", x.has(5), 98);
         due.is("has(6)", x.has(6), 50);
-        Due.tell(x, "river 3;");
-        x.river();
-        due.is("has(4) without", x.has(4), 10);
-        due.is("has(5) without", x.has(5), 20);
-        due.is("has(6) without", x.has(6), 0);
+        for (int i = 0; i < 3; i++) {
+            Due.tell(x, "river 3;");
+            x.river();
+            due.is("has(4) without", x.has(4), 10);
+            due.is("has(5) without", x.has(5), 20);
+            due.is("has(6) without", x.has(6), 0);
+        }
     }
 
     private static void sums(Due due) {
@@ -253,6 +262,10 @@ public final class TextTests {
     }
 
     private static void ownWords(Due due) {
+        due.holds(I, "1 to 6 letters, no OWN WORD, unlike ones");
+        due.fault(1, "river 3;owner |max;");
+        due.fault(1, "river 3;colour |bank;");
+        due.isRiver("river 3;owner maxx;colour ban;", 3);
         due.holds(I, "OWN WORDS: river, slope, at, owner, colour, bank, of, holds, size, cut, settle, rises, joins, ebb, level, flow, held, stones, "
             + "year, place, min, max.");
         for (String word : OWN_WORDS) {
@@ -548,6 +561,11 @@ public final class TextTests {
         due.fault(4, "river 3;cut ((((((1)))))+(((((1)))))+(((((|(");
         due.fault(4, "river 3;cut min(min(min(min(min(min(max|(");
         due.fault(4, "river 3;cut min(1,min(1,min(1,min(1,min(1,min(1,max  |(");
+        SiltShare x = new SiltShare();
+        Due.tell(x, "river 3;cut (((((((1");
+        due.is("river() that is too deep", x.river(), -1);
+        Due.tell(x, "river 3;cut ((((((1))))));");
+        due.is("river() that is just so deep, behind it", x.river(), 2);
         due.fault(1, "river 3;cut ((((((1|(");
         due.fault(1, "river 3;cut ((((((min|;");
         due.fault(4, "river 3;cut (((((( |(");
@@ -672,6 +690,7 @@ public final class TextTests {
         x.feed(0, 0, 0, 0, 0);
         due.is("end(0)", x.end(0), true);
         due.is("end(1) of nothing", x.end(1), false);
+        endsCutOff(due);
         due.holds("Promise 3", "false, refused (0), if it has not so many, or n is below 0.");
         x = new SiltShare();
         due.is("end(1) of an empty tape", x.end(1), false);
@@ -684,6 +703,36 @@ public final class TextTests {
         due.is("the tape stays", x.river(), 1);
         due.is("end(20) of a tape that went", x.end(20), false);
         due.is("status(0)", x.status(0), 6);
+    }
+
+    /** What was cut off is no part of the text, though it would go on so well. */
+    private static void endsCutOff(Due due) {
+        SiltShare x = new SiltShare();
+        String[] whole = {"river 3;ebb 1;", "river 3       ", "river 3;ebb 1 ;", "river 3;rises 12;", "river 3;owner abcd;", "river 3;ebb 1;"};
+        int[] to = {13, 7, 13, 15, 16, 10};
+        int[] place = {13, 7, 13, 15, 16, 8};
+        for (int i = 0; i < whole.length; i++) {
+            Due.tell(x, whole[i]);
+            x.end(to[i]);
+            due.is("river() of " + whole[i] + " up to " + to[i], x.river(), -1);
+            due.is("fault(0)", x.fault(0), 1);
+            due.is("fault(1)", x.fault(1), place[i]);
+        }
+        Due.tell(x, "river 3;ebb 1;");
+        x.end(8);
+        due.is("river() of river 3;ebb 1; up to 8", x.river(), 1);
+        String[] questions = {"total 12", "total 1+1", "most level   ", "often all or all"};
+        int[] upTo = {7, 7, 10, 9};
+        int[] want = {10, 10, 9, 10};
+        for (int i = 0; i < questions.length; i++) {
+            Due.tell(x, questions[i]);
+            x.end(upTo[i]);
+            due.is("ask() of " + questions[i] + " up to " + upTo[i], x.ask(), want[i]);
+        }
+        Due.tell(x, "total 1       ");
+        x.end(5);
+        due.is("ask() of total", x.ask(), SiltShare.NOTHING);
+        due.is("fault(1)", x.fault(1), 5);
     }
 
     private static void tapeGoes(Due due) {
@@ -743,22 +792,27 @@ public final class TextTests {
 
     private static void anew(Due due) {
         due.holds("Promise 4", "Without one it is YEAR 0, nothing lies anywhere, there are no stones, nothing is FOUND or can be undone; the seed stays.");
-        String text = START + "bank b of a colour c at 0 holds 50 size 9;cut 20;settle 10;";
+        String text = START + "bank b of a colour c at 0 holds 50 size 9;cut 20;settle 6;";
         SiltShare x = Due.river(text);
         x.flood(1);
         x.flood(1);
-        x.stone(2, true);
-        Due.tellNumbers(x, 20, 20, 0);
+        for (int r = 0; r < 3; r++) {
+            x.stone(r, true);
+        }
+        Due.tellNumbers(x, 12, 12, 12);
         due.is("find()", x.find(), true);
-        due.is("has(11)", x.has(11), 0);
+        due.is("has(11)", x.has(11), 4);
         Due.tell(x, text);
         due.is("river() once more", x.river(), 6);
         int[] same = {3, 1, 1, 1, 10, 20, 0, 0, 0, 50, 0, 0, 0};
         for (int what = 0; what < same.length; what++) {
             due.is("has(" + what + ")", x.has(what), same[what]);
         }
-        due.is("lies(0, 0)", x.lies(0, 0), 0);
-        due.is("reach(2, 1)", x.reach(2, 1), 0);
+        for (int r = 0; r < 3; r++) {
+            due.is("lies(" + r + ", 0)", x.lies(r, 0), 0);
+            due.is("reach(" + r + ", 1)", x.reach(r, 1), 0);
+        }
+        due.is("bank(0, 6)", x.bank(0, 6), 0);
         due.is("levels()", x.levels(), -1);
         due.is("undo()", x.undo(), false);
         x.flood(1);
@@ -773,6 +827,58 @@ public final class TextTests {
         due.is("letter(0, 0, 0)", x.letter(0, 0, 0), -1);
         due.is("lies(0, 0)", x.lies(0, 0), -1);
         due.is("cuts(0, 1)", x.cuts(0, 1), -1);
+        asNew(due);
+    }
+
+    private static final String GREAT = "river 8;slope 9 at 0;slope 8 at 1;slope 7 at 3;owner a;owner b;owner d;colour c;colour e;"
+        + "bank u of a colour c at 0 holds 99 size 9;bank v of b colour e at 1 holds 98 size 8;bank w of d colour c at 2 holds 97 size 7;"
+        + "bank x of d colour e at 0 holds 96 size 9;cut 20;settle 5;ebb 9;rises 3;joins 4;";
+    private static final String SMALL = "river 3;owner p;owner q;colour r;bank s of p colour r at 0 holds 60 size 2;cut level*5;settle 2+stones;";
+
+    /** All of a RIVER with more of everything, and of one behind it, is gone. */
+    private static void asNew(Due due) {
+        SiltShare x = Due.river(GREAT);
+        use(x);
+        Due.tell(x, GREAT);
+        x.river();
+        use(x);
+        Due.tell(x, SMALL);
+        due.is("river()", x.river(), 7);
+        SiltShare y = Due.river(SMALL);
+        int[] none = Due.imageOf(y);
+        Due.tellBytes(x, none);
+        due.is("on() of its first image", x.on(), true);
+        for (int level = 0; level < 10; level += 3) {
+            for (int what = 0; what < 4; what++) {
+                due.is("would(" + level + ", " + what + ")", x.would(level, what), y.would(level, what));
+            }
+            for (int share = 1; share < 1000; share += 333) {
+                due.is("mine(1, 2, " + level + ", " + share + ", -1)", x.mine(1, 2, level, share, -1), y.mine(1, 2, level, share, -1));
+                due.is("mine(0, 2, " + level + ", " + share + ", -1)", x.mine(0, 2, level, share, -1), y.mine(0, 2, level, share, -1));
+            }
+            due.is("until(0, 2, " + level + ")", x.until(0, 2, level), y.until(0, 2, level));
+        }
+        for (String question : new String[] {"total level", "total taken", "total sea", "total lies 3", "total lies 2", "total holds 1", "total holds 0"}) {
+            Due.tell(x, question);
+            Due.tell(y, question);
+            due.is("ask() of " + question, x.ask(), y.ask());
+        }
+        due.row("the image", Due.imageOf(x), none);
+        due.is("flood(4)", x.flood(4), y.flood(4));
+        due.row("the image behind a FLOOD", Due.imageOf(x), Due.imageOf(y));
+    }
+
+    private static void use(SiltShare x) {
+        for (int r = 0; r < 8; r++) {
+            x.stone(r, true);
+        }
+        x.flood(9);
+        x.flood(3);
+        x.until(2, 7, 9);
+        x.mine(2, 7, 9, 999, -1);
+        x.would(9, 0);
+        Due.tell(x, "total sea+taken+lies 3+holds 3");
+        x.ask();
     }
 
     /** The same YEARS with and without a river() behind seed(). */
