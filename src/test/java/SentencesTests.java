@@ -16,8 +16,7 @@ public final class SentencesTests {
     public static void main(String[] args) throws IOException {
         Due due = new Due("SentencesTests");
         Path document = Path.of("../shared/DOC.md");
-        due.is("the document is there", Files.isReadable(document), true);
-        String text = Files.isReadable(document) ? plain(Files.readString(document)) : "";
+        String text = plain(Files.readString(document));
         Set<String> held = new TreeSet<>();
         for (Path file : tests()) {
             Matcher m = HOLDS.matcher(Files.readString(file));
