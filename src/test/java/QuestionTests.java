@@ -322,8 +322,6 @@ public final class QuestionTests {
         due.fault(RIVER, 1, "often not |or");
         for (int c = 128; c < 256; c++) {
             due.faultOfQuestion(Due.river(RIVER), "total 1" + (char) c, 1, 7);
-            if (c % 8 == 7) {
-                    }
         }
     }
 
