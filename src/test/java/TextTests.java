@@ -421,11 +421,14 @@ public final class TextTests {
         due.fault(1, START + "bank b of a colour |at");
         due.fault(1, "river 3;owner abcdef|gh;");
         due.fault(1, "river 3;owner settle|s;");
+        due.fault(1, "river 3;owner abcdef;owner abcdef|g;");
         due.fault(1, START + "bank abcdef|g of");
         due.fault(1, START + "bank b of abcdef|g");
         due.fault(1, START + "bank b of a colour abcdef|g");
         due.holds(I, "where a number is asked, a 5th digit at itself;");
         due.fault(1, "river 0000|3;");
+        due.fault(1, "river 1234|5;");
+        due.fault(1, "river 3;ebb 9999|9;");
         due.fault(1, "river 3;slope 0000|1 at 0;");
         due.fault(1, "river 3;slope 1 at 0000|0;");
         due.fault(1, "river 3;rises 0001|0;");
